@@ -43,8 +43,10 @@ public final class AccountsTest {
         check.due("passWeeks(1)", y.passWeeks(1), 1);
         check.due("burnedFat()", y.burnedFat(), 41);
 
-        check.due("sleepShare() of seven", 1, Typed.made("archive;repeat 7(clip 1;);reel 1;sleep 0 0;").sleepShare()
-                == 1.0f / 7.0f ? 1 : 0);
+        check.dueReal("sleepShare() of seven", Typed.made("archive;repeat 7(clip 1;);reel 1;sleep 0 0;").sleepShare(),
+                1.0f / 7.0f);
+        check.dueReal("sleepShare() of one", Typed.made("archive;clip 1;reel 1;sleep 0 0;").sleepShare(), 1.0f);
+        check.dueReal("meanFat() of one", Typed.made("archive;clip 1;reel 1;sleep 0 0;weeks 1;").meanFat(), 39.0);
         check.end();
     }
 

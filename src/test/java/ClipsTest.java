@@ -120,6 +120,16 @@ public final class ClipsTest {
         check.due("nearestClip(4)", y.nearestClip(4), 5);
         check.due("nearestClip(7) without a common run", y.nearestClip(7), 0);
         check.due("nearestClip(0)", y.nearestClip(0), 1);
+        // colours of a clip that was there before do not count
+        ClipHibernation again = Typed.made("archive;clip 1234;");
+        again.addClip(1234);
+        again.undo();
+        again.addClip(12);
+        again.addClip(91234);
+        check.due("commonRun(0, 1) of a clip made anew", again.commonRun(0, 1), 2);
+        check.due("commonRun(1, 0) of a clip made anew", again.commonRun(1, 0), 2);
+        check.due("commonRun(1, 2) of a clip made anew", again.commonRun(1, 2), 2);
+        check.due("firstMatch(1, 34) of a clip made anew", again.firstMatch(1, 34), -1);
         ClipHibernation one = Typed.made("archive;clip 5;");
         check.due("nearestClip(0) of one clip", one.nearestClip(0), -1);
         ClipHibernation two = Typed.made("archive;clip 5;clip 6;");

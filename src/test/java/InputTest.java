@@ -5,7 +5,44 @@ public final class InputTest {
         bytesStandInOrder(check);
         bufferEndsAt600(check);
         truncating(check);
+        cutOffTokens(check);
         check.end();
+    }
+
+    private static void dueError(Check check, ClipHibernation x, String what, int offset) {
+        check.due("runScript() " + what, x.runScript(), -1);
+        check.due("scriptErrorKind() " + what, x.scriptErrorKind(), 1);
+        check.due("scriptErrorOffset() " + what, x.scriptErrorOffset(), offset);
+    }
+
+    /** A token ends where the text ends, whatever was behind it before. */
+    private static void cutOffTokens(Check check) {
+        ClipHibernation x = new ClipHibernation();
+        Typed.type(x, "archive;weeksx");
+        x.truncateInput(13);
+        dueError(check, x, "of a word cut off", 13);
+        Typed.type(x, "archive;food 12;");
+        x.truncateInput(14);
+        dueError(check, x, "of a number cut off", 14);
+        Typed.type(x, "archive;food 1;");
+        x.truncateInput(14);
+        dueError(check, x, "without the last semicolon", 14);
+        Typed.type(x, "archive;" + " ".repeat(587) + "weeks");
+        dueError(check, x, "with a word up to byte 600", 600);
+        Typed.type(x, "archive;food " + " ".repeat(579) + "12345678");
+        check.due("runScript() with a number up to byte 600", x.runScript(), -1);
+        check.due("scriptErrorKind()", x.scriptErrorKind(), 2);
+        check.due("scriptErrorOffset()", x.scriptErrorOffset(), 592);
+        Typed.type(x, "archive;food " + " ".repeat(586) + "1");
+        dueError(check, x, "with a digit at byte 600", 600);
+        Typed.type(x, "archive;food 1;" + " ".repeat(585));
+        check.due("runScript() with spaces up to byte 600", x.runScript(), 0);
+        Typed.type(x, "archive;" + "1".repeat(592));
+        dueError(check, x, "with a run of 592 digits", 8);
+        Typed.type(x, "archive;food " + "4294967297" + ";");
+        dueError(check, x, "with a number beyond int", 13);
+        Typed.type(x, "a".repeat(600));
+        dueError(check, x, "with a word of 600 letters", 0);
     }
 
     private static void bytesStandInOrder(Check check) {

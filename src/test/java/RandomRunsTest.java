@@ -185,7 +185,7 @@ public final class RandomRunsTest {
             String word = WORDS[random.nextInt(WORDS.length)];
             text.append(word).append(random.nextInt(9) == 0 ? "\n" : " ");
             if (word.equals("repeat")) {
-                text.append(random.nextInt(30) == 0 ? 20 + random.nextInt(2) : 1 + random.nextInt(3)).append(" (");
+                text.append(1 + random.nextInt(random.nextInt(5) == 0 ? 21 : 3)).append(" (");
                 if (depth < 2 || random.nextInt(8) == 0) {
                     commands(text, random.nextInt(4), Math.min(depth + 1, 2));
                 }

@@ -91,6 +91,12 @@ public final class ScriptTest {
         badAtMark("archive;^)", 1);
         badAtMark("archive;^clips 1;", 1);
         badAtMark("archive;^cli 1;", 1);
+        badAtMark("archive;^flip 1;", 1);
+        badAtMark("archive;^clap 1;", 1);
+        badAtMark("archive;^clin 1;", 1);
+        badAtMark("archive;^clipz 1;", 1);
+        badAtMark("archive;clip 1;clip ^z;", 1);
+        badAtMark("archive;clip 1^:", 1);
         badAtMark("archive;clip ^;", 1);
         badAtMark("archive;clip^", 1);
         badAtMark("archive;clip 1^", 1);
@@ -151,6 +157,13 @@ public final class ScriptTest {
         badAtMark("archive;weeks ^99999999;", 2);
         badAtMark("archive;repeat ^0();", 2);
         badAtMark("archive;repeat ^21();", 2);
+        good("archive;clip 12345678;clip 9;reel 1;reel 9;scene 1;scene 9;feed 0 50;feed 0 1;food 1;food 999;cut 0 1;cut 1 9999;"
+                + "paint 0 7 9;paint 1 0 1;sleep 0 1;wake 0;air 1;weeks 1;repeat 1(repeat 20(););",
+                "week 1 food 1049 burned 8 wakings 0 violations 0\n"
+                + "clip 12345679 state 0 fat 87 hash 222 in -1/-1 scene -1\n"
+                + "clip 1 state 0 fat 36 hash 1 in -1/-1 scene -1\n"
+                + "reel -1\nreel -1 -1 -1 -1 -1 -1 -1 -1 -1\nscene 1\nscene 9\n");
+        good("archive;weeks 50;", "week 50 food 100 burned 0 wakings 0 violations 0\n");
     }
 
     private static void refusals() {
@@ -258,5 +271,10 @@ public final class ScriptTest {
         x.undo();
         check.due("scriptErrorKind() after undo", x.scriptErrorKind(), 0);
         check.due("runScript() without clips", Typed.run(x, "archive;reel 1;"), 0);
+        check.due("runScript() with an error in a repeat", Typed.run(x, "archive;repeat 2(food 1;repeat 3(food 0"), -1);
+        check.due("runScript() after it", Typed.run(x, "archive;repeat 2(repeat 2(food 1;););"), 0);
+        check.due("food()", x.food(), 104);
+        check.due("runScript() with a command too many", Typed.run(x, "archive;repeat 11(repeat 20(food 1;););"), -1);
+        check.due("runScript() after it", Typed.run(x, "archive;repeat 10(repeat 20(food 1;););"), 0);
     }
 }
