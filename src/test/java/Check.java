@@ -4,6 +4,16 @@ import java.util.Objects;
 final class Check {
     private int asked;
     private int wrong;
+    private String heading = "";
+
+    /** What stands before each answer that is told from now on. */
+    void head(String text) {
+        heading = text;
+    }
+
+    int asked() {
+        return asked;
+    }
 
     void due(String call, long got, long want) {
         tell(call, got == want, got, want);
@@ -43,7 +53,7 @@ final class Check {
         asked++;
         if (!right) {
             wrong++;
-            System.out.println(call + " answered " + got + ", due is " + want);
+            System.out.println(heading + call + " answered " + got + ", due is " + want);
         }
     }
 }

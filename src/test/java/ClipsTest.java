@@ -72,18 +72,10 @@ public final class ClipsTest {
 
     private static void hashes() {
         ClipHibernation x = Typed.made("archive;clip 1;clip 9;clip 11;clip 99;clip 999;clip 99999999;clip 98765432;");
-        dueEach("hash", x, x::hash, hash("1"), hash("9"), hash("11"), hash("99"), hash("999"), hash("99999999"),
-                hash("98765432"));
+        dueEach("hash", x, x::hash, Made.hash("1"), Made.hash("9"), Made.hash("11"), Made.hash("99"), Made.hash("999"),
+                Made.hash("99999999"), Made.hash("98765432"));
         check.due("hash of 99 by hand", x.hash(3), 288);
         check.due("hash of 999 by hand", x.hash(4), 8937 - 8 * 997);
-    }
-
-    private static int hash(String colours) {
-        int hash = 0;
-        for (char colour : colours.toCharArray()) {
-            hash = (31 * hash + colour - '0') % 997;
-        }
-        return hash;
     }
 
     private static void places() {
@@ -141,7 +133,7 @@ public final class ClipsTest {
         String same = null;
         for (int number = 1; same == null; number++) {
             String text = Integer.toString(number);
-            if (text.indexOf('0') < 0 && number != 123 && hash(text) == 29) {
+            if (text.indexOf('0') < 0 && number != 123 && Made.hash(text) == 29) {
                 same = text;
             }
         }

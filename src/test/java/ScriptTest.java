@@ -16,34 +16,11 @@ public final class ScriptTest {
     }
 
     private static void good(String text, String look) {
-        ClipHibernation x = new ClipHibernation();
-        Typed.run(x, "nonsense");
-        int answer = Typed.run(x, text);
-        check.due("runScript() of " + text, answer, x.clipCount());
-        check.due("scriptErrorKind() of " + text, x.scriptErrorKind(), 0);
-        check.due("scriptErrorOffset() of " + text, x.scriptErrorOffset(), -1);
-        check.due("undoCount() after " + text, x.undoCount(), 1);
-        check.due("the input after " + text, x.append(0, 0, 0, 0, 0), 20);
-        check.dueText("the archive of " + text, Look.at(x), look);
+        Scripts.good(check, text, look);
     }
 
-    private static void bad(String text, int kind, int offset) {
-        ClipHibernation x = new ClipHibernation();
-        x.addFood(7);
-        x.writeReel(0);
-        String before = Look.at(x) + Look.report(x);
-        check.due("runScript() of " + text, Typed.run(x, text), -1);
-        check.due("scriptErrorKind() of " + text, x.scriptErrorKind(), kind);
-        check.due("scriptErrorOffset() of " + text, x.scriptErrorOffset(), offset);
-        check.due("undoCount() after " + text, x.undoCount(), 1);
-        check.due("the input after " + text, x.append(0, 0, 0, 0, 0), 20);
-        check.dueText("the archive after " + text, Look.at(x) + Look.report(x), before);
-    }
-
-    /** The error is at the mark ^, which is left out of the text. */
     private static void badAtMark(String marked, int kind) {
-        int offset = marked.indexOf('^');
-        bad(marked.substring(0, offset) + marked.substring(offset + 1), kind, offset);
+        Scripts.badAtMark(check, marked, kind);
     }
 
     private static void goodScripts() {
@@ -54,17 +31,9 @@ public final class ScriptTest {
         good("archive;clip\n12\n;", empty + "clip 12 state 0 fat 40 hash 33 in -1/-1 scene -1\n");
         good("archive;food 00000005;", "week 0 food 105 burned 0 wakings 0 violations 0\n");
         good("archive;clip 99999999;", empty + "clip 99999999 state 0 fat 40 hash "
-                + hashOf("99999999") + " in -1/-1 scene -1\n");
+                + Made.hash("99999999") + " in -1/-1 scene -1\n");
         good("archive;clip 1;reel 2;sleep 0 0;weeks 50;", "week 50 food 100 burned 40 wakings 0 violations 0\n"
                 + "clip 1 state 2 fat 0 hash 1 in -1/-1 scene -1\nreel -1 -2\n");
-    }
-
-    private static int hashOf(String colours) {
-        int hash = 0;
-        for (char colour : colours.toCharArray()) {
-            hash = (31 * hash + colour - '0') % 997;
-        }
-        return hash;
     }
 
     private static void everyCommand() {
