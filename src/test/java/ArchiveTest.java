@@ -11,7 +11,7 @@ public final class ArchiveTest {
         check.due("springs(0)", x.springs(0), 2);
         check.due("springs(1)", x.springs(1), 0);
         for (int wrong : new int[] {-1, 2, Integer.MIN_VALUE, Integer.MAX_VALUE}) {
-            check.refuses("springs(" + wrong + ")", IndexOutOfBoundsException.class, x, () -> x.springs(wrong));
+            check.refuses("springs(" + wrong + ")", IndexOutOfBoundsException.class, fresh -> fresh.springs(wrong));
         }
         x.passWeeks(7);
         x.addFood(11);

@@ -20,9 +20,8 @@ public final class BedsTest {
     }
 
     private static void refusesWrong(String name, int count, Question question) {
-        ClipHibernation x = new ClipHibernation();
         for (int wrong : new int[] {-1, count, Integer.MIN_VALUE, Integer.MAX_VALUE}) {
-            check.refuses(name + " of " + wrong, IndexOutOfBoundsException.class, x, () -> question.ask(x, wrong));
+            check.refuses(name + " of " + wrong, IndexOutOfBoundsException.class, x -> question.ask(x, wrong));
         }
     }
 

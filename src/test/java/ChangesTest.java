@@ -26,7 +26,7 @@ public final class ChangesTest {
     private static void addClip() {
         ClipHibernation x = new ClipHibernation();
         for (int wrong : new int[] {0, -1, -5, LEAST, GREATEST, 10, 105, 12340, 100000000, 111111111, 99999990, 1111111111}) {
-            check.refuses("addClip(" + wrong + ")", BAD, x, () -> x.addClip(wrong));
+            check.refuses("addClip(" + wrong + ")", BAD, fresh -> fresh.addClip(wrong));
         }
         check.due("addClip(1)", x.addClip(1), 5);
         check.due("addClip(99999999)", x.addClip(99999999), 6);
@@ -49,7 +49,7 @@ public final class ChangesTest {
     private static void addReel() {
         ClipHibernation x = new ClipHibernation();
         for (int wrong : new int[] {0, -1, 10, LEAST, GREATEST}) {
-            check.refuses("addReel(" + wrong + ")", BAD, x, () -> x.addReel(wrong));
+            check.refuses("addReel(" + wrong + ")", BAD, fresh -> fresh.addReel(wrong));
         }
         check.due("addReel(9)", x.addReel(9), 2);
         check.due("addReel(1)", x.addReel(1), 3);
@@ -70,7 +70,7 @@ public final class ChangesTest {
     private static void addScene() {
         ClipHibernation x = new ClipHibernation();
         for (int wrong : new int[] {0, -1, 10, LEAST, GREATEST}) {
-            check.refuses("addScene(" + wrong + ")", BAD, x, () -> x.addScene(wrong));
+            check.refuses("addScene(" + wrong + ")", BAD, fresh -> fresh.addScene(wrong));
         }
         check.due("addScene(9)", x.addScene(9), 2);
         check.due("addScene(1)", x.addScene(1), 3);
@@ -86,11 +86,11 @@ public final class ChangesTest {
     private static void sleep() {
         ClipHibernation x = new ClipHibernation();
         for (int wrong : new int[] {-1, 5, LEAST, GREATEST}) {
-            check.refuses("sleep(" + wrong + ", 0)", NO_SUCH, x, () -> x.sleep(wrong, 0));
+            check.refuses("sleep(" + wrong + ", 0)", NO_SUCH, fresh -> fresh.sleep(wrong, 0));
         }
         for (int wrong : new int[] {-1, 2, LEAST, GREATEST}) {
-            check.refuses("sleep(1, " + wrong + ")", NO_SUCH, x, () -> x.sleep(1, wrong));
-            check.refuses("sleep(0, " + wrong + ") of a sleeper", NO_SUCH, x, () -> x.sleep(0, wrong));
+            check.refuses("sleep(1, " + wrong + ")", NO_SUCH, fresh -> fresh.sleep(1, wrong));
+            check.refuses("sleep(0, " + wrong + ") of a sleeper", NO_SUCH, fresh -> fresh.sleep(0, wrong));
         }
         check.refuses("sleep(0, 1) of a sleeper", REFUSED, x, () -> x.sleep(0, 1));
         // its home 603 % 5 = 3 is taken, so the bed behind it
@@ -130,7 +130,7 @@ public final class ChangesTest {
     private static void wake() {
         ClipHibernation x = new ClipHibernation();
         for (int wrong : new int[] {-1, 5, LEAST, GREATEST}) {
-            check.refuses("wake(" + wrong + ")", NO_SUCH, x, () -> x.wake(wrong));
+            check.refuses("wake(" + wrong + ")", NO_SUCH, fresh -> fresh.wake(wrong));
         }
         check.refuses("wake(1) of a clip that is awake", REFUSED, x, () -> x.wake(1));
         check.due("wake(3)", x.wake(3), 1);
@@ -151,11 +151,11 @@ public final class ChangesTest {
     private static void cut() {
         ClipHibernation x = new ClipHibernation();
         for (int wrong : new int[] {-1, 2, LEAST, GREATEST}) {
-            check.refuses("cut(" + wrong + ", 1)", NO_SUCH, x, () -> x.cut(wrong, 1));
-            check.refuses("cut(" + wrong + ", 0)", NO_SUCH, x, () -> x.cut(wrong, 0));
+            check.refuses("cut(" + wrong + ", 1)", NO_SUCH, fresh -> fresh.cut(wrong, 1));
+            check.refuses("cut(" + wrong + ", 0)", NO_SUCH, fresh -> fresh.cut(wrong, 0));
         }
         for (int wrong : new int[] {0, -1, 10000, LEAST, GREATEST}) {
-            check.refuses("cut(0, " + wrong + ")", BAD, x, () -> x.cut(0, wrong));
+            check.refuses("cut(0, " + wrong + ")", BAD, fresh -> fresh.cut(0, wrong));
         }
         check.due("cut(1, 1) without a spring", x.cut(1, 1), 0);
         check.due("undoCount()", x.undoCount(), 1);
@@ -196,7 +196,7 @@ public final class ChangesTest {
     private static void air() {
         ClipHibernation x = new ClipHibernation();
         for (int wrong : new int[] {-1, 2, LEAST, GREATEST}) {
-            check.refuses("air(" + wrong + ")", NO_SUCH, x, () -> x.air(wrong));
+            check.refuses("air(" + wrong + ")", NO_SUCH, fresh -> fresh.air(wrong));
         }
         check.due("air(0)", x.air(0), 1);
         check.due("bed(0, 0)", x.bed(0, 0), ClipHibernation.COLD);
@@ -232,12 +232,12 @@ public final class ChangesTest {
     private static void feed() {
         ClipHibernation x = new ClipHibernation();
         for (int wrong : new int[] {-1, 5, LEAST, GREATEST}) {
-            check.refuses("feed(" + wrong + ", 1)", NO_SUCH, x, () -> x.feed(wrong, 1));
-            check.refuses("feed(" + wrong + ", 0)", NO_SUCH, x, () -> x.feed(wrong, 0));
+            check.refuses("feed(" + wrong + ", 1)", NO_SUCH, fresh -> fresh.feed(wrong, 1));
+            check.refuses("feed(" + wrong + ", 0)", NO_SUCH, fresh -> fresh.feed(wrong, 0));
         }
         for (int wrong : new int[] {0, -1, 51, LEAST, GREATEST}) {
-            check.refuses("feed(1, " + wrong + ")", BAD, x, () -> x.feed(1, wrong));
-            check.refuses("feed(0, " + wrong + ") of a sleeper", BAD, x, () -> x.feed(0, wrong));
+            check.refuses("feed(1, " + wrong + ")", BAD, fresh -> fresh.feed(1, wrong));
+            check.refuses("feed(0, " + wrong + ") of a sleeper", BAD, fresh -> fresh.feed(0, wrong));
         }
         check.refuses("feed(0, 1) of a sleeper", REFUSED, x, () -> x.feed(0, 1));
         check.refuses("feed(4, 48) to fat 100", REFUSED, x, () -> x.feed(4, 48));
@@ -261,7 +261,7 @@ public final class ChangesTest {
     private static void addFood() {
         ClipHibernation x = new ClipHibernation();
         for (int wrong : new int[] {0, -1, 1000, LEAST, GREATEST}) {
-            check.refuses("addFood(" + wrong + ")", BAD, x, () -> x.addFood(wrong));
+            check.refuses("addFood(" + wrong + ")", BAD, fresh -> fresh.addFood(wrong));
         }
         check.due("addFood(1)", x.addFood(1), 81);
         for (int times = 1; times <= 9; times++) {
@@ -277,16 +277,16 @@ public final class ChangesTest {
     private static void paint() {
         ClipHibernation x = new ClipHibernation();
         for (int wrong : new int[] {-1, 5, LEAST, GREATEST}) {
-            check.refuses("paint(" + wrong + ", 0, 1)", NO_SUCH, x, () -> x.paint(wrong, 0, 1));
+            check.refuses("paint(" + wrong + ", 0, 1)", NO_SUCH, fresh -> fresh.paint(wrong, 0, 1));
         }
         for (int wrong : new int[] {-1, 4, 8, LEAST, GREATEST}) {
-            check.refuses("paint(1, " + wrong + ", 1)", NO_SUCH, x, () -> x.paint(1, wrong, 1));
-            check.refuses("paint(1, " + wrong + ", 0)", NO_SUCH, x, () -> x.paint(1, wrong, 0));
+            check.refuses("paint(1, " + wrong + ", 1)", NO_SUCH, fresh -> fresh.paint(1, wrong, 1));
+            check.refuses("paint(1, " + wrong + ", 0)", NO_SUCH, fresh -> fresh.paint(1, wrong, 0));
         }
         check.refuses("paint(4, 1, 1)", NO_SUCH, x, () -> x.paint(4, 1, 1));
         for (int wrong : new int[] {0, -1, 10, LEAST, GREATEST}) {
-            check.refuses("paint(1, 0, " + wrong + ")", BAD, x, () -> x.paint(1, 0, wrong));
-            check.refuses("paint(0, 0, " + wrong + ") of a sleeper", BAD, x, () -> x.paint(0, 0, wrong));
+            check.refuses("paint(1, 0, " + wrong + ")", BAD, fresh -> fresh.paint(1, 0, wrong));
+            check.refuses("paint(0, 0, " + wrong + ") of a sleeper", BAD, fresh -> fresh.paint(0, 0, wrong));
         }
         check.refuses("paint(0, 0, 1) of a sleeper", REFUSED, x, () -> x.paint(0, 0, 1));
         // 4214: 4, 126, 3907 % 997 = 916, 28400 % 997 = 484
@@ -306,7 +306,7 @@ public final class ChangesTest {
     private static void passWeeks() {
         ClipHibernation x = new ClipHibernation();
         for (int wrong : new int[] {0, -1, 51, LEAST, GREATEST}) {
-            check.refuses("passWeeks(" + wrong + ")", BAD, x, () -> x.passWeeks(wrong));
+            check.refuses("passWeeks(" + wrong + ")", BAD, fresh -> fresh.passWeeks(wrong));
         }
         // fats 38, 38 awake, 38, 38, 52 awake
         check.due("passWeeks(9)", x.passWeeks(9), 0);

@@ -1,4 +1,5 @@
 import java.util.Objects;
+import java.util.function.Consumer;
 
 /** Counts the answers that are not as due and tells them. */
 final class Check {
@@ -27,10 +28,14 @@ final class Check {
         tell(call, Objects.equals(got, want), got, want);
     }
 
-    /** The call is to throw just this exception and to leave everything as it was. */
+    /** The same for a call on a new object: everything is looked at, on an object of its own for each call. */
+    void refuses(String call, Class<? extends Exception> want, Consumer<ClipHibernation> action) {
+        Twins.refuses(this, call, want, ClipHibernation::new, action);
+    }
+
+    /** The call is to throw just this exception and to leave all as it was; few calls, since 512 is all that x has. */
     void refuses(String call, Class<? extends Exception> want, ClipHibernation x, Runnable action) {
-        String before = Look.at(x);
-        int undoable = x.undoCount();
+        String before = Look.shortly(x);
         String got = "nothing";
         try {
             action.run();
@@ -38,8 +43,7 @@ final class Check {
             got = thrown.getClass().getName();
         }
         dueText(call + " throws", got, want.getName());
-        dueText("the archive after " + call, Look.at(x), before);
-        due("undoCount() after " + call, x.undoCount(), undoable);
+        dueText("the archive after " + call, Look.shortly(x), before);
     }
 
     void end() {

@@ -20,9 +20,8 @@ public final class ClipsTest {
     }
 
     private static void refusesWrongClips(String name, Question question) {
-        ClipHibernation x = new ClipHibernation();
         for (int wrong : new int[] {-1, 5, 12, Integer.MIN_VALUE, Integer.MAX_VALUE}) {
-            check.refuses(name + " of clip " + wrong, IndexOutOfBoundsException.class, x, () -> question.ask(x, wrong));
+            check.refuses(name + " of clip " + wrong, IndexOutOfBoundsException.class, x -> question.ask(x, wrong));
         }
         ClipHibernation none = Typed.made("archive;");
         check.refuses(name + " without clips", IndexOutOfBoundsException.class, none, () -> question.ask(none, 0));

@@ -13,24 +13,22 @@ public final class CutsTest {
     }
 
     private static void wrongNumbers() {
-        ClipHibernation x = new ClipHibernation();
         for (int wrong : new int[] {-1, 5, Integer.MIN_VALUE, Integer.MAX_VALUE}) {
-            check.refuses("matches(" + wrong + ", 1)", IndexOutOfBoundsException.class, x, () -> x.matches(wrong, 1));
-            check.refuses("matches(" + wrong + ", 0)", IndexOutOfBoundsException.class, x, () -> x.matches(wrong, 0));
-            check.refuses("firstMatch(" + wrong + ", 1)", IndexOutOfBoundsException.class, x, () -> x.firstMatch(wrong, 1));
-            check.refuses("firstMatch(" + wrong + ", 0)", IndexOutOfBoundsException.class, x, () -> x.firstMatch(wrong, 0));
-            check.refuses("bestPattern(" + wrong + ")", IndexOutOfBoundsException.class, x, () -> x.bestPattern(wrong));
+            check.refuses("matches(" + wrong + ", 1)", IndexOutOfBoundsException.class, x -> x.matches(wrong, 1));
+            check.refuses("matches(" + wrong + ", 0)", IndexOutOfBoundsException.class, x -> x.matches(wrong, 0));
+            check.refuses("firstMatch(" + wrong + ", 1)", IndexOutOfBoundsException.class, x -> x.firstMatch(wrong, 1));
+            check.refuses("firstMatch(" + wrong + ", 0)", IndexOutOfBoundsException.class, x -> x.firstMatch(wrong, 0));
+            check.refuses("bestPattern(" + wrong + ")", IndexOutOfBoundsException.class, x -> x.bestPattern(wrong));
         }
         for (int wrong : new int[] {-1, 2, Integer.MIN_VALUE, Integer.MAX_VALUE}) {
-            check.refuses("wokenBy(" + wrong + ", 1)", IndexOutOfBoundsException.class, x, () -> x.wokenBy(wrong, 1));
-            check.refuses("wokenBy(" + wrong + ", 0)", IndexOutOfBoundsException.class, x, () -> x.wokenBy(wrong, 0));
+            check.refuses("wokenBy(" + wrong + ", 1)", IndexOutOfBoundsException.class, x -> x.wokenBy(wrong, 1));
+            check.refuses("wokenBy(" + wrong + ", 0)", IndexOutOfBoundsException.class, x -> x.wokenBy(wrong, 0));
         }
         for (int wrong : NO_PATTERNS) {
-            check.refuses("matches(0, " + wrong + ")", IllegalArgumentException.class, x, () -> x.matches(0, wrong));
-            check.refuses("firstMatch(0, " + wrong + ")", IllegalArgumentException.class, x, () -> x.firstMatch(0, wrong));
-            check.refuses("matchingSleepers(" + wrong + ")", IllegalArgumentException.class, x,
-                    () -> x.matchingSleepers(wrong));
-            check.refuses("wokenBy(0, " + wrong + ")", IllegalArgumentException.class, x, () -> x.wokenBy(0, wrong));
+            check.refuses("matches(0, " + wrong + ")", IllegalArgumentException.class, x -> x.matches(0, wrong));
+            check.refuses("firstMatch(0, " + wrong + ")", IllegalArgumentException.class, x -> x.firstMatch(0, wrong));
+            check.refuses("matchingSleepers(" + wrong + ")", IllegalArgumentException.class, x -> x.matchingSleepers(wrong));
+            check.refuses("wokenBy(0, " + wrong + ")", IllegalArgumentException.class, x -> x.wokenBy(0, wrong));
         }
     }
 

@@ -3,7 +3,7 @@ public final class FullArchiveTest {
     private static final Check check = new Check();
 
     public static void main(String[] args) {
-        ClipHibernation x = Typed.made("archive;repeat 12(clip 99999999;);repeat 4(reel 9;);repeat 5(scene 9;);");
+        ClipHibernation x = Made.full();
         check.due("clipCount()", x.clipCount(), 12);
         check.due("reelCount()", x.reelCount(), 4);
         check.due("sceneCount()", x.sceneCount(), 5);
@@ -46,20 +46,28 @@ public final class FullArchiveTest {
         check.end();
     }
 
+    private static ClipHibernation crowded() {
+        return Typed.made(Made.FULL + "sleep 0 3;sleep 1 3;sleep 2 3;sleep 3 3;sleep 4 3;sleep 5 3;sleep 6 3;sleep 7 3;"
+                + "sleep 8 3;sleep 9 2;sleep 10 2;sleep 11 2;");
+    }
+
     private static void aired(ClipHibernation x, int home) {
         String before = Look.at(x);
+        check.dueText("the same by a script", Look.at(crowded()), before);
         check.due("longestCluster(3)", x.longestCluster(3), 9);
         check.due("longestLook(3)", x.longestLook(3), 9);
         check.due("looksIfAired(3)", x.looksIfAired(3), 45);
         for (int reel = 0; reel < 4; reel++) {
-            check.due("air(" + reel + ")", x.air(reel), 0);
-            check.dueText("the archive after air(" + reel + ")", Look.at(x), before);
+            ClipHibernation y = crowded();
+            check.due("air(" + reel + ")", y.air(reel), 0);
+            check.dueText("the archive after air(" + reel + ")", Look.at(y), before);
         }
-        x.wake(9);
-        x.air(1);
-        check.due("bed of reel 2 beside an aired one", x.bed(2, home), ClipHibernation.WARM);
-        check.due("sleep(9, 2)", x.sleep(9, 2), home);
-        check.dueText("the archive", Look.at(x), before);
+        ClipHibernation z = crowded();
+        z.wake(9);
+        z.air(1);
+        check.due("bed of reel 2 beside an aired one", z.bed(2, home), ClipHibernation.WARM);
+        check.due("sleep(9, 2)", z.sleep(9, 2), home);
+        check.dueText("the archive", Look.at(z), before);
     }
 
     private static void nothing() {

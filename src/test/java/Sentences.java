@@ -7,9 +7,13 @@ import java.util.function.Consumer;
 
 /** Runs a test for each sentence of the document, and finds the sentences that have none. */
 final class Sentences {
-    /** Stands for the section "Terms" where otherwise the number of a promise stands. */
+    /** These stand for sections without a number, where otherwise the number of a promise stands. */
+    static final int WHAT_IT_IS = -1;
     static final int TERMS = 0;
-    static final int PROMISES = 63;
+    static final int NOT_PROMISED = 64;
+
+    /** FaceTest reads this section. */
+    private static final String FACE = "The public face";
 
     private final Check check = new Check();
     private final Map<Integer, List<String>> told = new TreeMap<>();
@@ -36,7 +40,9 @@ final class Sentences {
 
     /** Each sentence told is to stand in its section of the document, and there none but those told. */
     void compareWith(String document) {
-        for (int promise = TERMS; promise <= PROMISES; promise++) {
+        check.due("sections", document.split("(?m)^## ").length - 1, NOT_PROMISED - WHAT_IT_IS + 2);
+        check.due("has " + FACE, document.contains("\n## " + FACE + "\n") ? 1 : 0, 1);
+        for (int promise = WHAT_IT_IS; promise <= NOT_PROMISED; promise++) {
             List<String> sentences = told.getOrDefault(promise, new ArrayList<>());
             sentences.sort(Comparator.comparing(String::length).reversed());
             String rest = section(document, promise);
@@ -60,12 +66,22 @@ final class Sentences {
     }
 
     private static String title(int promise) {
-        return promise == TERMS ? "Terms" : "Promise " + promise;
+        switch (promise) {
+            case WHAT_IT_IS:
+                return "What it is";
+            case TERMS:
+                return "Terms";
+            case NOT_PROMISED:
+                return "Not promised";
+            default:
+                return "Promise " + promise;
+        }
     }
 
     /** Without its heading, the declarations of the calls, and the lines that only put the calls in order. */
     private static String section(String document, int promise) {
-        String heading = promise == TERMS ? "## Terms\n" : "## Promise " + promise + ": ";
+        boolean numbered = promise > TERMS && promise < NOT_PROMISED;
+        String heading = "## " + title(promise) + (numbered ? ": " : "\n");
         int begin = document.indexOf(heading);
         if (begin < 0) {
             return "no section";
@@ -75,6 +91,6 @@ final class Sentences {
         text = text.substring(text.indexOf('\n'));
         text = text.replaceAll("(?m)^Ahead of the calls .*$", "");
         text = text.replaceAll("(?m)^```.*$", "");
-        return promise == TERMS ? text : text.replaceAll("(?m)^`[^`]*`: ", "");
+        return numbered ? text.replaceAll("(?m)^`[^`]*`: ", "") : text;
     }
 }

@@ -3,12 +3,13 @@ import java.nio.file.Files;
 import java.nio.file.Path;
 
 /**
- * Each sentence of "Terms" and of promises 1 to 63 that names a boundary case has a test of its own here: the last
+ * Each sentence of the document (but for "The public face", see FaceTest) that names a boundary case has a test of its own here: the last
  * good value and the first bad one, the empty and the full, the way past the last bed, the refused call.
  */
 public final class SentencesTest {
     public static void main(String[] args) throws IOException {
         Sentences sentences = new Sentences();
+        UseEdges.tell(sentences);
         TermsEdges.tell(sentences);
         ScriptEdges.tell(sentences);
         UndoEdges.tell(sentences);

@@ -5,7 +5,7 @@ final class Typed {
     private Typed() {
     }
 
-    /** Texts longer than 600 bytes do not fit; between 581 and 599 bytes only a multiple of 20 does. */
+    /** Texts longer than 600 bytes do not fit. */
     static void type(ClipHibernation x, String text) {
         byte[] bytes = text.getBytes(StandardCharsets.ISO_8859_1);
         byte[] padded = new byte[(bytes.length + 19) / 20 * 20];

@@ -47,26 +47,30 @@ public final class UndoTest {
         }
     }
 
+    private static String weekAndFood(ClipHibernation x) {
+        return x.week() + " " + x.food();
+    }
+
     private static void latestEight() {
         ClipHibernation x = new ClipHibernation();
         List<String> looks = new ArrayList<>();
         for (int change = 1; change <= 11; change++) {
-            looks.add(Look.at(x));
+            looks.add(weekAndFood(x));
             x.addFood(change);
             check.due("undoCount() after " + change, x.undoCount(), Math.min(change, 8));
         }
         for (int left = 7; left >= 5; left--) {
             check.due("undo()", x.undo(), left);
-            check.dueText("the archive", Look.at(x), looks.get(3 + left));
+            check.dueText("week and food", weekAndFood(x), looks.get(3 + left));
         }
         for (int change = 0; change < 2; change++) {
-            looks.set(8 + change, Look.at(x));
+            looks.set(8 + change, weekAndFood(x));
             x.passWeeks(1 + change);
         }
         check.due("undoCount()", x.undoCount(), 7);
         for (int left = 6; left >= 0; left--) {
             check.due("undo()", x.undo(), left);
-            check.dueText("the archive", Look.at(x), looks.get(3 + left));
+            check.dueText("week and food", weekAndFood(x), looks.get(3 + left));
         }
         check.due("undo()", x.undo(), -1);
         check.due("undoCount()", x.undoCount(), 0);
