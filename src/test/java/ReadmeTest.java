@@ -78,15 +78,17 @@ public final class ReadmeTest {
         return lines.toString();
     }
 
-    /** Answers what was printed; an exit code other than 0 is a fault. */
+    /** Answers what was printed, but for the errors' stream; an exit code other than 0 is a fault. */
     private String run(String what, String... words) throws IOException, InterruptedException {
         File none = folder.resolve("none").toFile();
         none.createNewFile();
-        Process process = new ProcessBuilder(words).directory(folder.toFile()).redirectErrorStream(true)
-                .redirectInput(none).start();
+        Path errors = folder.resolve("errors");
+        Process process = new ProcessBuilder(words).directory(folder.toFile()).redirectInput(none)
+                .redirectError(errors.toFile()).start();
         String printed = new String(process.getInputStream().readAllBytes());
         int code = process.waitFor();
-        check.dueText("the exit code of " + what, code == 0 ? "0" : code + "\n" + printed, "0");
+        String told = code == 0 ? "0" : code + "\n" + printed + Files.readString(errors);
+        check.dueText("the exit code of " + what, told, "0");
         return printed;
     }
 
