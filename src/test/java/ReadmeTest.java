@@ -24,14 +24,16 @@ public final class ReadmeTest {
         Path shared = Path.of(System.getProperty("shared", "../shared")).toRealPath();
         String page = Files.readString(project.resolve("README.md"));
         Path room = Files.createTempDirectory("readme");
+        ReadmeTest test = new ReadmeTest(room.resolve("main"));
         try {
-            Path folder = Files.createDirectory(room.resolve("main"));
-            Files.createSymbolicLink(folder.resolve("src"), project.resolve("src"));
+            Files.createDirectory(test.folder);
+            Files.createSymbolicLink(test.folder.resolve("src"), project.resolve("src"));
             Files.createSymbolicLink(room.resolve("shared"), shared);
-            new ReadmeTest(folder).follow(page);
+            test.follow(page);
         } finally {
             delete(room.toFile());
         }
+        test.check.end();
     }
 
     /** Goes the way of a reader: programs into files of their names, then the commands as they stand. */
@@ -52,7 +54,6 @@ public final class ReadmeTest {
             check.dueText("what " + name(program) + " prints", printed, told(program));
         }
         check.due("README.md shows programs", programs.size() > 0 ? 1 : 0, 1);
-        check.end();
     }
 
     private static List<String> blocks(String page, String language) {
